@@ -152,6 +152,14 @@ public final class PromisesTest {
         }
     }
 
+    private static void constants() {
+        due("NONE", MarkLog.NONE, -1);
+        due("BAD", MarkLog.BAD, -2);
+        due("CLOSED", MarkLog.CLOSED, -3);
+        due("FULL", MarkLog.FULL, -4);
+        due("LOST", MarkLog.LOST, -5);
+    }
+
     private static void feed() {
         MarkLog x = new MarkLog(20);
         due("feed(.., 3)", x.feed(0x1122334455667788L, 3), 3);
@@ -203,6 +211,39 @@ public final class PromisesTest {
         due("FREE", x.told(3), 14);
         due("PARTS", x.told(4), 2);
         due("greatest", x.told(5), 2);
+    }
+
+    /** What was written before leaves nothing in what is written now. */
+    private static void writtenAfterAnother() {
+        MarkLog x = new MarkLog(40);
+        for (int k = 0; k < 155; k++) x.feed(255, 1);
+        x.part(7, -1);
+        x.feed(9, 1);
+        x.part(0, 0);
+        int[] body = new int[32];
+        body[0] = 5;
+        body[1] = 9;
+        dueRow(x, 9, body);
+        dueRow(x, 8, partRow(0, 1, 2, 0, digest(body, 0, 32)));
+        x.part(7, -1);
+        x.mark(3);
+        x.keep(1);
+        long first = number(x, 2, 16, 8);
+        int[][] rows = markRows(1, new long[] {1, 2, first}, new long[] {2, 8, digest(body, 0, 32)}, new long[] {3, 10, 0});
+        for (int k = 0; k < 3; k++) dueRow(x, 11 + k, rows[k]);
+        x.owner(0);
+        dueRow(x, 1, head(1, 1));
+    }
+
+    private static void manyParts() {
+        MarkLog x = new MarkLog(512);
+        for (int k = 1; k <= 510; k++) due("part " + k, x.part(k % 8, k), k);
+        due("part", x.part(0, 0), FULL);
+        due("FREE", x.told(3), 0);
+        due("open()", x.open(), 0);
+        due("PARTS", x.told(4), 510);
+        due("POSITION", x.partOf(510, 1), 510);
+        due("row", x.partOf(510, 3), 511);
     }
 
     private static void partRefused() {
@@ -335,6 +376,26 @@ public final class PromisesTest {
         due("keep(2)", x.keep(2), CLOSED);
     }
 
+    private static void manyKept() {
+        MarkLog x = new MarkLog(512);
+        x.part(0, 0);
+        for (int k = 1; k <= 254; k++) {
+            due("mark(1)", x.mark(1), k);
+            due("keep(" + k + ")", x.keep(k), 1);
+        }
+        x.mark(1);
+        due("keep(255)", x.keep(255), FULL);
+        due("open()", x.open(), 254);
+        due("marks(253)", x.marks(253), 254);
+        due("named(1)", x.named(1), 254);
+        due("drop(0)", x.drop(0), 1);
+        due("FREE", x.told(3), 510);
+        for (int k = 0; k < 255; k++) setRows(x, 2 + 2 * k, markRows(1000 - k, new long[] {1, 2, 0}));
+        due("open()", x.open(), 255);
+        due("marks(0)", x.marks(0), 746);
+        due("FREE", x.told(3), 0);
+    }
+
     private static void keepLost() {
         for (int n = 0; n <= 64; n++) {
             MarkLog x = new MarkLog(8);
@@ -465,6 +526,35 @@ public final class PromisesTest {
         for (int row = 2; row < 40; row++) due("row " + row, isClear(y, row), row != y.partOf(6, 3));
     }
 
+    /** What stays is known as before. */
+    private static void dropLeaves() {
+        MarkLog x = new MarkLog(40);
+        x.part(1, 11);
+        feedRising(x, 50, 3);
+        x.part(2, 22);
+        x.mark(1);
+        feedRising(x, 60, 40);
+        x.part(3, 33);
+        x.mark(2);
+        x.mark(1);
+        for (int k = 1; k <= 3; k++) x.keep(k);
+        due("drop(2)", x.drop(2), 1);
+        long[] known = {2, 22, 3, 3, 1, 1};
+        for (int what = 0; what < 6; what++) due("partOf(2, " + what + ")", x.partOf(2, what), known[what]);
+        known = new long[] {3, 33, 40, 5, 1, 2};
+        for (int what = 0; what < 6; what++) due("partOf(3, " + what + ")", x.partOf(3, what), known[what]);
+        due("whole(2)", x.whole(2), 1);
+        due("whole(3)", x.whole(3), 1);
+        due("markOf(2, 0)", x.markOf(2, 0), 2);
+        due("markOf(2, -1)", x.markOf(2, NONE), 2);
+        due("markOf(3, 0)", x.markOf(3, 0), 3);
+        due("badAt()", x.badAt(), NONE);
+        MarkLog y = new MarkLog(8);
+        y.part(0, 0);
+        due("drop(0): PART 1 was never named", y.drop(0), 0);
+        due("PARTS", y.told(4), 1);
+    }
+
     private static void dropLost() {
         for (int n = 0; n <= 128; n++) {
             MarkLog x = new MarkLog(10);
@@ -553,6 +643,12 @@ public final class PromisesTest {
         x.open();
         due("greatest PART", x.told(5), 6);
         due("greatest MARK", x.told(6), 0);
+        x.poke((int) x.partOf(6, 3), 2, 1);
+        due("open()", x.open(), 0);
+        due("PART 6 is known no more", x.told(4), 0);
+        due("its row is FREE", x.told(3), 38);
+        due("greatest PART", x.told(5), 0);
+        due("part", x.part(0, 0), 1);
     }
 
     private static void openHeads() {
@@ -641,6 +737,9 @@ public final class PromisesTest {
         x.poke(4, 31, 1);
         due("the DIGEST of its ENTRIES", x.open(), 0);
         x.poke(4, 31, 1);
+        setRows(x, 10, markRows(7, one));
+        due("up to the last row", x.open(), 2);
+        setRow(x, 10, new int[32]);
         setRow(x, 11, markRows(7, one)[0]);
         due("not all its rows are there", x.open(), 1);
         setRows(x, 9, markRows(6, new long[] {90, 2, 0}));
@@ -662,6 +761,8 @@ public final class PromisesTest {
         while (x.byteAt(row, 0) != 2 || x.byteAt(row, 7) != 3) row++;
         x.poke(row + 1, 8, 1);
         due("usable()", x.usable(), 2);
+        x.poke(row - 1, 8, 1);
+        due("the oldest one", x.usable(), 1);
         due("usable() of nothing", new MarkLog(9).usable(), NONE);
         x.close();
         due("usable()", x.usable(), CLOSED);
@@ -992,6 +1093,10 @@ public final class PromisesTest {
         due("no room for the last", in(y, savepointOf(5, repeated(5, one))), FULL);
         due("nothing written", y.told(2), before);
         due("nothing known", y.told(4), 0);
+        int[] two = java.util.Arrays.copyOf(one, 22 + 100);
+        two[21] = 100;
+        due("no room for the longer one", in(y, savepointOf(2, two)), FULL);
+        due("nothing written", y.told(2), before);
         due("room for all", in(y, savepointOf(4, repeated(4, one))), 1);
 
         MarkLog z = new MarkLog(20);
@@ -1081,15 +1186,15 @@ public final class PromisesTest {
     }
 
     public static void main(String[] args) {
-        promise = 1; newObject();
+        promise = 1; constants(); newObject();
         promise = 2; feed();
         promise = 3; wipe();
-        promise = 4; part(); partRefused(); partPlaces(); partLost();
+        promise = 4; part(); writtenAfterAnother(); manyParts(); partRefused(); partPlaces(); partLost();
         promise = 5; mark();
-        promise = 6; keep(); keepLost();
+        promise = 6; keep(); manyKept(); keepLost();
         promise = 7; give();
         promise = 8; owner(); ownerLost();
-        promise = 9; drop(); dropLost();
+        promise = 9; drop(); dropLeaves(); dropLost();
         promise = 10; cut();
         promise = 11; close();
         promise = 12; openFinds(); openHeads(); openParts(); openMarks();
