@@ -225,12 +225,14 @@ public final class PromisesTest {
         body[1] = 9;
         dueRow(x, 9, body);
         dueRow(x, 8, partRow(0, 1, 2, 0, digest(body, 0, 32)));
+        x.feed(9, 1);
         x.part(7, -1);
         x.mark(3);
         x.keep(1);
         long first = number(x, 2, 16, 8);
-        int[][] rows = markRows(1, new long[] {1, 2, first}, new long[] {2, 8, digest(body, 0, 32)}, new long[] {3, 10, 0});
-        for (int k = 0; k < 3; k++) dueRow(x, 11 + k, rows[k]);
+        long other = digest(body, 0, 32);
+        int[][] rows = markRows(1, new long[] {1, 2, first}, new long[] {2, 8, other}, new long[] {3, 10, other});
+        for (int k = 0; k < 3; k++) dueRow(x, 12 + k, rows[k]);
         x.owner(0);
         dueRow(x, 1, head(1, 1));
     }
