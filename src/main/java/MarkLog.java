@@ -66,8 +66,8 @@ public final class MarkLog {
     // ---- what writes
 
     public int part(int group, long position) {
-        if (!isOpen) return CLOSED;
-        int answer = writeTape(group, position);
+        // the TAPE is read whatever is answered, so no answer comes before it is empty
+        int answer = isOpen ? writeTape(group, position) : CLOSED;
         tape.clear();
         return answer;
     }
@@ -246,16 +246,15 @@ public final class MarkLog {
     }
 
     public int in() {
-        if (!isOpen) return CLOSED;
         int count = tape.at(1);
-        boolean isBad = !isSavepointOnTape();
-        boolean isFull = !isBad && !isRoomForSavepoint(count);
-        if (!isBad && !isFull) writeSavepoint(count);
+        int answer;
+        // the TAPE is read whatever is answered, so no answer comes before it is empty
+        if (!isOpen) answer = CLOSED;
+        else if (!isSavepointOnTape()) answer = BAD;
+        else if (!isRoomForSavepoint(count)) answer = FULL;
+        else answer = writeSavepoint(count);
         tape.clear();
-        if (isBad) return BAD;
-        if (isFull) return FULL;
-        // the PARTS just written have the greatest NUMBERS
-        return isOpen ? makeMark(count) : LOST;
+        return answer;
     }
 
     public int equal(int a, int b) {
@@ -674,7 +673,7 @@ public final class MarkLog {
         return true;
     }
 
-    private void writeSavepoint(int count) {
+    private int writeSavepoint(int count) {
         int at = MARK_INTRO;
         for (int k = 0; k < count && isOpen; k++) {
             int length = lengthOnTape(at);
@@ -682,6 +681,8 @@ public final class MarkLog {
             writePart(row, tape.at(at), tape.number(at + 1, 8), at + PART_INTRO, length);
             at = behindPart(at);
         }
+        // the PARTS just written have the greatest NUMBERS
+        return isOpen ? makeMark(count) : LOST;
     }
 
     /** The rows themselves, the power that writes them, and nothing of what they mean. */

@@ -152,9 +152,9 @@ public final class ModelTest {
         }
 
         int part(int group, long position) {
-            if (!open) return CLOSED;
             List<Integer> bytes = tape;
             tape = new ArrayList<>();
+            if (!open) return CLOSED;
             if (group < 0 || group > 7 || bytes.size() > 155) return BAD;
             P p = new P();
             p.length = bytes.size();
@@ -479,9 +479,9 @@ public final class ModelTest {
         }
 
         int in() {
-            if (!open) return CLOSED;
             int[] t = ints(tape);
             tape = new ArrayList<>();
+            if (!open) return CLOSED;
             if (t.length < 2 || t[0] != 77 || t[1] < 1 || t[1] > 12) return BAD;
             List<P> list = new ArrayList<>();
             List<List<Integer>> bytes = new ArrayList<>();

@@ -269,7 +269,12 @@ public final class PromisesTest {
         x.close();
         x.feed(1, 1);
         due("part(8, 0): CLOSED before BAD", x.part(8, 0), CLOSED);
-        due("the TAPE is not read", x.wipe(), 1);
+        due("the TAPE is read", x.wipe(), 0);
+        x.feed(1, 1);
+        due("part(0, 0)", x.part(0, 0), CLOSED);
+        x.open();
+        due("the TAPE is read, also if it is OPEN again", x.wipe(), 0);
+        due("nothing written", x.told(2), 192);
 
         MarkLog y = new MarkLog(8);
         setRow(y, 7, partRow(0, 0, BILLION - 1, 0, 0));
@@ -1061,8 +1066,13 @@ public final class PromisesTest {
         y.close();
         feedBytes(y, all);
         due("in()", y.in(), CLOSED);
+        due("the TAPE is read", y.wipe(), 0);
+        feedBytes(y, all);
+        due("in() once more", y.in(), CLOSED);
         y.open();
-        due("the TAPE was not read", y.in(), 1);
+        due("the TAPE is read, also if it is OPEN again", y.in(), BAD);
+        due("nothing written", y.told(2), 5 * 32);
+        due("in() of what is fed again", in(y, all), 1);
     }
 
     private static int[] repeated(int count, int... one) {
