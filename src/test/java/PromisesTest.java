@@ -1,139 +1,5 @@
 /** Each promise of the document by itself: ordinary inputs, the edges that it names, and wrong inputs. */
-public final class PromisesTest {
-    private static final int NONE = MarkLog.NONE, BAD = MarkLog.BAD, CLOSED = MarkLog.CLOSED;
-    private static final int FULL = MarkLog.FULL, LOST = MarkLog.LOST;
-    private static final int BILLION = 1000000000;
-    private static int wrong = 0;
-    private static int promise = 0;
-
-    private static void due(String call, long got, long want) {
-        if (got == want) return;
-        wrong++;
-        System.out.println("promise " + promise + ": " + call + " answered " + got + ", due is " + want);
-    }
-
-    private static void due(String call, boolean got, boolean want) {
-        due(call, got ? 1 : 0, want ? 1 : 0);
-    }
-
-    // ---- helpers
-
-    private static long digest(int[] bytes, int from, int to) {
-        long s = 0;
-        for (int i = from; i < to; i++) s = Long.rotateLeft(s ^ bytes[i], 53) * 0xC2B2AE3D27D4EB4FL;
-        return s;
-    }
-
-    private static void put(int[] bytes, int at, long value, int n) {
-        for (int k = 0; k < n; k++) bytes[at + k] = (int) (value >>> 8 * (n - 1 - k) & 255);
-    }
-
-    private static int[] summed(int[] row) {
-        put(row, 24, digest(row, 0, 24), 8);
-        return row;
-    }
-
-    private static int[] head(int serial, int... owners) {
-        int[] row = new int[32];
-        row[0] = 4;
-        put(row, 4, serial, 4);
-        for (int g = 0; g < owners.length; g++) put(row, 8 + 2 * g, owners[g], 2);
-        return summed(row);
-    }
-
-    private static int[] partRow(int group, int length, int number, long position, long digest) {
-        int[] row = new int[32];
-        row[0] = 1;
-        row[1] = group;
-        put(row, 2, length, 2);
-        put(row, 4, number, 4);
-        put(row, 8, position, 8);
-        put(row, 16, digest, 8);
-        return summed(row);
-    }
-
-    /** The rows of a MARK; of each PART: NUMBER, row, DIGEST. */
-    private static int[][] markRows(int number, long[]... parts) {
-        int entries = (parts.length + 1) / 2;
-        int[] all = new int[32 * entries];
-        for (int k = 0; k < parts.length; k++) {
-            int at = 32 * (k / 2) + 1 + 14 * (k % 2);
-            all[32 * (k / 2)] = 6;
-            put(all, at, parts[k][0], 4);
-            put(all, at + 4, parts[k][1], 2);
-            put(all, at + 6, parts[k][2], 8);
-        }
-        int[][] rows = new int[1 + entries][32];
-        for (int e = 0; e < entries; e++) System.arraycopy(all, 32 * e, rows[1 + e], 0, 32);
-        rows[0][0] = 2;
-        rows[0][1] = parts.length;
-        put(rows[0], 4, number, 4);
-        put(rows[0], 8, digest(all, 0, all.length), 8);
-        summed(rows[0]);
-        return rows;
-    }
-
-    private static void setRow(MarkLog x, int row, int[] bytes) {
-        for (int i = 0; i < 32; i++) {
-            int mask = x.byteAt(row, i) ^ bytes[i];
-            if (mask != 0) x.poke(row, i, mask);
-        }
-    }
-
-    private static void setRows(MarkLog x, int row, int[][] rows) {
-        for (int k = 0; k < rows.length; k++) setRow(x, row + k, rows[k]);
-    }
-
-    private static void feedBytes(MarkLog x, int... bytes) {
-        for (int b : bytes) x.feed(b, 1);
-    }
-
-    /** So many bytes, beginning with a given one and rising. */
-    private static void feedRising(MarkLog x, int first, int n) {
-        for (int k = 0; k < n; k++) x.feed(first + k, 1);
-    }
-
-    private static int partOfLength(MarkLog x, int n) {
-        feedRising(x, 1, n);
-        return x.part(0, 0);
-    }
-
-    private static long number(MarkLog x, int row, int at, int n) {
-        long v = 0;
-        for (int k = 0; k < n; k++) v = v << 8 | x.byteAt(row, at + k);
-        return v;
-    }
-
-    private static void dueRow(MarkLog x, int row, int[] want) {
-        for (int i = 0; i < 32; i++) due("byteAt(" + row + ", " + i + ")", x.byteAt(row, i), want[i]);
-    }
-
-    private static boolean isClear(MarkLog x, int row) {
-        for (int i = 0; i < 32; i++) if (x.byteAt(row, i) != 0) return false;
-        return true;
-    }
-
-    private static int[] savepoint(MarkLog x, int mark) {
-        int n = x.out(mark, NONE);
-        int[] all = new int[Math.max(0, n)];
-        for (int i = 0; i < n; i++) all[i] = x.out(mark, i);
-        return all;
-    }
-
-    private static int[] savepointOf(int count, int... parts) {
-        int[] all = new int[2 + parts.length + 8];
-        all[0] = 77;
-        all[1] = count;
-        System.arraycopy(parts, 0, all, 2, parts.length);
-        put(all, all.length - 8, digest(all, 0, all.length - 8), 8);
-        return all;
-    }
-
-    private static int in(MarkLog x, int... bytes) {
-        feedBytes(x, bytes);
-        return x.in();
-    }
-
+public final class PromisesTest extends Checks {
     // ---- the promises
 
     private static void newObject() {
@@ -1075,12 +941,6 @@ public final class PromisesTest {
         due("in() of what is fed again", in(y, all), 1);
     }
 
-    private static int[] repeated(int count, int... one) {
-        int[] all = new int[count * one.length];
-        for (int k = 0; k < count; k++) System.arraycopy(one, 0, all, k * one.length, one.length);
-        return all;
-    }
-
     private static void inRefused() {
         int[] one = {7, 0, 0, 0, 0, 0, 0, 0, 0, 0, 0};
         MarkLog x = new MarkLog(40);
@@ -1198,33 +1058,32 @@ public final class PromisesTest {
     }
 
     public static void main(String[] args) {
-        promise = 1; constants(); newObject();
-        promise = 2; feed();
-        promise = 3; wipe();
-        promise = 4; part(); writtenAfterAnother(); manyParts(); partRefused(); partPlaces(); partLost();
-        promise = 5; mark();
-        promise = 6; keep(); manyKept(); keepLost();
-        promise = 7; give();
-        promise = 8; owner(); ownerLost();
-        promise = 9; drop(); dropLeaves(); dropLost();
-        promise = 10; cut();
-        promise = 11; close();
-        promise = 12; openFinds(); openHeads(); openParts(); openMarks();
-        promise = 13; usable();
-        promise = 14; whole();
-        promise = 15; marks();
-        promise = 16; markOf();
-        promise = 17; partOf();
-        promise = 18; partByte();
-        promise = 19; named();
-        promise = 20; badAt();
-        promise = 21; poke();
-        promise = 22; byteAt();
-        promise = 23; out();
-        promise = 24; in(); inRefused(); inLost();
-        promise = 25; equal(); equalDiffers();
-        promise = 26; told();
-        System.out.println(wrong == 0 ? "all promises hold" : wrong + " answers are not as due");
-        if (wrong != 0) System.exit(1);
+        promise(1); constants(); newObject();
+        promise(2); feed();
+        promise(3); wipe();
+        promise(4); part(); writtenAfterAnother(); manyParts(); partRefused(); partPlaces(); partLost();
+        promise(5); mark();
+        promise(6); keep(); manyKept(); keepLost();
+        promise(7); give();
+        promise(8); owner(); ownerLost();
+        promise(9); drop(); dropLeaves(); dropLost();
+        promise(10); cut();
+        promise(11); close();
+        promise(12); openFinds(); openHeads(); openParts(); openMarks();
+        promise(13); usable();
+        promise(14); whole();
+        promise(15); marks();
+        promise(16); markOf();
+        promise(17); partOf();
+        promise(18); partByte();
+        promise(19); named();
+        promise(20); badAt();
+        promise(21); poke();
+        promise(22); byteAt();
+        promise(23); out();
+        promise(24); in(); inRefused(); inLost();
+        promise(25); equal(); equalDiffers();
+        promise(26); told();
+        end("all promises hold");
     }
 }
