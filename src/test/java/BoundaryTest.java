@@ -699,6 +699,19 @@ public final class BoundaryTest extends Checks {
         due("drop(1) again", x.drop(1), 0);
         due("PARTS", x.told(4), 1);
 
+        says("Rows that are taken back become all 0 (those that belong to what is known, whatever stands there now)");
+        MarkLog z = new MarkLog(14);
+        partOfLength(z, 40);
+        z.mark(1);
+        z.keep(1);
+        spoil(z, 7, 14);
+        setRow(z, 2, partRow(0, 155, 1, 0, 0));
+        setRow(z, 5, altered(markRows(1, new long[] {1, 2, 0})[0], 1, 12));
+        int before = z.told(2);
+        due("drop(0)", z.drop(0), 1);
+        due("bytes: 3 rows of the PART, 2 of the MARK", z.told(2) - before, 32 * 5);
+        for (int row = 2; row < 14; row++) due("row " + row, isClear(z, row), row < 7);
+
         says("Rows that are taken back become all 0");
         MarkLog y = new MarkLog(12);
         partOfLength(y, 40);
@@ -1229,6 +1242,16 @@ public final class BoundaryTest extends Checks {
         x.close();
         due("out(1, -1)", x.out(1, NONE), CLOSED);
 
+        says("GROUP, POSITION (8) (as they were known), its bytes");
+        MarkLog z = new MarkLog(12);
+        feedBytes(z, 50, 60);
+        z.part(2, 9);
+        z.mark(1);
+        setRow(z, 2, partRow(3, 2, 1, 10, number(z, 2, 16, 8)));
+        due("whole(1)", z.whole(1), 1);
+        int[] known = savepointOf(1, 2, 0, 0, 0, 0, 0, 0, 0, 9, 0, 2, 50, 60);
+        for (int i = 0; i < known.length; i++) due("out(1, " + i + ")", z.out(1, i), known[i]);
+
         says("for each, by NUMBERS");
         MarkLog y = new MarkLog(12);
         setRow(y, 2, partRow(2, 0, 9, 5, 0));
@@ -1309,6 +1332,33 @@ public final class BoundaryTest extends Checks {
         due("keep(2)", x.keep(2), 1);
         for (int i = 0; i < all.length; i++) due("out(2, " + i + ")", x.out(2, i), all[i]);
         due("in() of an empty TAPE", x.in(), BAD);
+    }
+
+    private static void inBodies() {
+        says("BODIES .. 5 and 31 bytes (0s behind the last one), whatever comes next on the TAPE");
+        for (int length : new int[] {0, 1, 30, 31, 32, 61, 62, 154, 155}) {
+            MarkLog x = new MarkLog(20);
+            spoil(x, 2, 20);
+            int rows = 1 + (length + 30) / 31;
+            due("in()", in(x, savepointOf(2, joined(partOut(6, 1, length), partOut(7, -1, length)))), 1);
+            int[] bytes = java.util.Arrays.copyOfRange(partOut(6, 1, length), 11, 11 + length);
+            dueRows(x, 2, partRows(6, 1, 1, bytes));
+            dueRows(x, 2 + rows, partRows(7, 2, -1, bytes));
+            due("the row behind", x.byteAt(2 + 2 * rows, 0), 0xEE);
+            due("whole(1)", x.whole(1), 1);
+        }
+        says("BAD: it is none such (a TAPE that ends inside of a PART)");
+        int[] most = savepointOf(12, repeated(12, partOut(0, 0, 155)));
+        for (int n : new int[] {1980, 1993, 1994, 1999, 2000}) {
+            MarkLog x = new MarkLog(100);
+            due("in() of " + n + " bytes of 2002", in(x, java.util.Arrays.copyOf(most, n)), BAD);
+            due("wipe()", x.wipe(), 0);
+        }
+        MarkLog x = new MarkLog(100);
+        int[] told = savepointOf(12, joined(repeated(11, partOut(1, 2, 155)), partOut(1, 2, 153)));
+        put(told, 2 + 11 * 166 + 9, 155, 2);
+        put(told, 1992, digest(told, 0, 1992), 8);
+        due("in() of 2000 bytes, whose last PART tells two bytes more", in(x, told), BAD);
     }
 
     private static void inFull() {
@@ -1486,7 +1536,7 @@ public final class BoundaryTest extends Checks {
         promise(21); pokes();
         promise(22); byteAt();
         promise(23); out();
-        promise(24); inForms(); inBytes(); inFull(); inNumbers();
+        promise(24); inForms(); inBytes(); inBodies(); inFull(); inNumbers();
         promise(25); equal();
         promise(26); told();
         end("all boundaries hold");

@@ -631,7 +631,7 @@ public final class PromisesTest extends Checks {
         due("usable()", x.usable(), NONE);
         x.poke((int) x.partOf(5, 3), 9, 1);
         int row = 2;
-        while (x.byteAt(row, 0) != 2 || x.byteAt(row, 7) != 3) row++;
+        while (row < 39 && (x.byteAt(row, 0) != 2 || x.byteAt(row, 7) != 3)) row++;
         x.poke(row + 1, 8, 1);
         due("usable()", x.usable(), 2);
         x.poke(row - 1, 8, 1);

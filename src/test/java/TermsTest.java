@@ -358,6 +358,13 @@ public final class TermsTest extends Checks {
         due("badAt()", y.badAt(), NONE);
         partOfLength(y, 32);
         due("a PART of 3 rows takes those of the second", y.partOf(5, 3), 4);
+        MarkLog z = opened(12, 2, joinedRows(markRows(6, ONE), markOfEntries(6, 2, entry), new int[][] {inner}));
+        due("PARTS: the ENTRY of the second is passed over with it", z.told(4), 1);
+        due("the PART behind", z.partOf(1, 3), 6);
+        due("FREE", z.told(3), 7);
+        z.poke(4, 24, 1);
+        z.open();
+        due("PARTS: the row behind one that is none", z.told(4), 2);
     }
 
     private static void greatestNumbers() {
